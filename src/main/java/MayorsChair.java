@@ -771,7 +771,9 @@ public final class MayorsChair {
             }
             int most = NONE_SUCH;
             for (int i = 0; i < MOST_ORDERS; i++) {
-                int much = poorestBehind(town, trial, n);
+                putOtherwise(town, trial);
+                trial.letPass(n);
+                int much = trial.poorestWealth();
                 if (much > most) {
                     most = much;
                     noteBest();
@@ -783,13 +785,11 @@ public final class MayorsChair {
             return most;
         }
 
-        int poorestBehind(Town town, Town trial, int n) {
+        void putOtherwise(Town town, Town trial) {
             trial.become(town);
             for (int k = 0; k < town.works; k++) {
                 trial.worth[k] = town.worth[tried[k]];
             }
-            trial.letPass(n);
-            return trial.poorestWealth();
         }
 
         void noteBest() {

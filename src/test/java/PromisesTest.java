@@ -145,6 +145,7 @@ public final class PromisesTest {
         x.mud(3, 7);
         x.seen(1, 0);
         x.keep();
+        x.behind(9, 0, 0);
         write(x, LARGE);
         due("5: lay()", x.lay(), 6);
         int[] counts = {6, 6, 0, NONE, 306, 0, 0, 0, 0, 0, LARGE.length()};
@@ -391,6 +392,9 @@ public final class PromisesTest {
         due("15: even(100)", x.even(100), BAD);
         x = laid("s0,62,0;s0,1,0;w1;");
         due("15: even(0), behind 61", x.even(0), NONE);
+        x = laid("s0,5,0;s0,1,0;s0,9,0;w1;");
+        due("15: even(7)", x.even(7), 1);
+        due("15: even(8), the richest the last", x.even(8), 0);
         x = laid("s1,9,0;s2,9,0;w3;");
         due("15: even(0) by wealth, not by looks", x.even(0), 0);
         x.mud(1, 9);
@@ -451,6 +455,8 @@ public final class PromisesTest {
         due("18: help(5, 0, 0)", x.help(5, 0, 0), 1);
         due("18: help(5, 0, 1), in full to the spending", x.help(5, 0, 1), 9);
         due("18: help(40, 0, 1)", x.help(40, 0, 1), 10);
+        due("18: help(1, 0, 1)", x.help(1, 0, 1), 5);
+        due("18: help(1, 40, 1)", x.help(1, 40, 1), 0);
         due("18: help(5, 1, 0), of several the lowest", x.help(5, 1, 0), 0);
         due("18: help(5, 1, 1)", x.help(5, 1, 1), 0);
         due("18: nothing changes by it", x.street(1, 1), 4);
@@ -564,9 +570,12 @@ public final class PromisesTest {
         int mud = zOf(0);
         int gift = zOf(1);
         int fire = zOf(2);
-        x = laid("s0,90,0;s0,99,0;w1;");
-        due("24: mud on the second", x.decade(mud, 1, 1), 1);
-        due("24: its work", x.decade(mud, 1, 0), 190);
+        x = laid("s0,80,0;s0,90,0;w1;");
+        due("24: mud of 11 on the second", x.decade(mud, 1, 1), 1);
+        due("24: its work", x.decade(mud, 1, 0), 171);
+        x = laid("s0,2,0;s0,2,0;w1;");
+        due("24: a gift of 1, no more", x.decade(gift, 1, 0) * 10 + x.decade(gift, 1, 2), 50);
+        due("24: decade(9999, 60, 1)", x.decade(9999, 60, 1) >> 1, 0);
         x = laid("s0,5,0;s0,5,0;w1;");
         due("24: the second gives", x.decade(gift, 1, 1), 1);
         due("24: and has a work", x.decade(gift, 1, 0), 11);
