@@ -2,15 +2,33 @@
 final class Check {
     private static int looked = 0;
     private static int wrong = 0;
+    private static int sentences = 0;
+    private static int lookedAhead = 0;
+    private static String sentence = "";
 
     private Check() {
+    }
+
+    /** What is looked at from here on is what that sentence of the document says; none may have nothing looked at. */
+    static void sentence(String text) {
+        closeSentence();
+        sentence = text;
+        sentences++;
+        lookedAhead = looked;
+    }
+
+    private static void closeSentence() {
+        if (sentences > 0 && looked == lookedAhead) {
+            wrong++;
+            System.out.println("nothing was looked at for: " + sentence);
+        }
     }
 
     static void due(String call, long got, long want) {
         looked++;
         if (got != want) {
             wrong++;
-            System.out.println(call + " answered " + got + ", due is " + want);
+            System.out.println((sentence.isEmpty() ? "" : "[" + sentence + "] ") + call + " answered " + got + ", due is " + want);
         }
     }
 
@@ -19,7 +37,8 @@ final class Check {
     }
 
     static void finish(String test) {
-        System.out.println(test + ": " + looked + " looked at, " + wrong + " wrong");
+        closeSentence();
+        System.out.println(test + ": " + (sentences > 0 ? sentences + " sentences, " : "") + looked + " looked at, " + wrong + " wrong");
         if (wrong > 0 || looked == 0) {
             System.exit(1);
         }
